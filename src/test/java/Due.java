@@ -14,6 +14,13 @@ final class Due {
         }
     }
 
+    void holds(String what, boolean does) {
+        if (!does) {
+            wrong++;
+            System.out.println(title + ": does not hold: " + what);
+        }
+    }
+
     /** Ends the program, with exit code 1 if any answer was wrong. */
     void end() {
         System.exit(wrong == 0 ? 0 : 1);

@@ -42,12 +42,12 @@ public final class FaceTest {
             }
             got.add(method.getName() + " " + method.getParameterCount());
             due.is(method + " is public alone", method.getModifiers(), Modifier.PUBLIC);
-            due.is(method + " answers an int", method.getReturnType() == int.class ? 1 : 0, 1);
+            due.holds(method + " answers an int", method.getReturnType() == int.class);
             for (Class<?> parameter : method.getParameterTypes()) {
-                due.is(method + " takes ints", parameter == int.class ? 1 : 0, 1);
+                due.holds(method + " takes ints", parameter == int.class);
             }
         }
-        due.is("methods " + got, got.equals(want) ? 1 : 0, 1);
+        due.holds("methods " + got, got.equals(want));
     }
 
     private static void fields(Class<?> type) {
@@ -60,8 +60,8 @@ public final class FaceTest {
             }
             got.add(field.getName());
             due.is(field + " is a constant", field.getModifiers(), constant);
-            due.is(field + " is an int", field.getType() == int.class ? 1 : 0, 1);
+            due.holds(field + " is an int", field.getType() == int.class);
         }
-        due.is("fields " + got, got.equals(want) ? 1 : 0, 1);
+        due.holds("fields " + got, got.equals(want));
     }
 }

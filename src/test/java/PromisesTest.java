@@ -31,17 +31,11 @@ public final class PromisesTest {
     }
 
     private static int cell(int row, int column) {
-        return row + 16 * column;
+        return Scene.cell(row, column);
     }
 
-    /** An array whose cells all differ: cell c holds c + 1, made with 32 calls. */
     private static ChunkArray numbered() {
-        ChunkArray x = new ChunkArray();
-        for (int i = 0; i < 16; i++) {
-            x.add(cell(i, 0), cell(i, 15), i + 1);
-            x.add(cell(0, i), cell(15, i), 16 * i);
-        }
-        return x;
+        return Scene.numbered();
     }
 
     private static void isNumbered(String when, ChunkArray x) {
